@@ -1,0 +1,298 @@
+/** Promises 6 to 9: feed, text, force, asks; and what a TEXT says. */
+public final class LawTest {
+    private static final Check check = new Check("LawTest");
+    private static final String REST = ";chalk 1;takes 1;";
+
+    public static void main(String[] args) {
+        feed();
+        text();
+        faults();
+        depth();
+        force();
+        asks();
+        values();
+        theFirstLaw();
+        check.end();
+    }
+
+    private static void feed() {
+        ThroughATrumpet x = new ThroughATrumpet();
+        check.due("feed(0, 0)", x.feed(0, 0), ThroughATrumpet.BAD);
+        check.due("feed(0, 9)", x.feed(0, 9), ThroughATrumpet.BAD);
+        check.due("feed(0, -1)", x.feed(0, -1), ThroughATrumpet.BAD);
+        check.due("nothing came", x.count(12), 0);
+        // h a d blank: the highest of the lowest four, first; what is above does not matter
+        check.due("feed had", x.feed(0x4142434468616420L, 4), 4);
+        check.due("feed the rest", Tapes.feed(x, "7;chalk 1;takes 2;"), 22);
+        check.due("it is a text", x.text(), 1);
+        x.force(1);
+        check.due("had 7", x.asks(0, 0, 0), 7);
+        for (int k = 1; k <= 20; k++) {
+            check.due("feed eight", x.feed(-1L, 8), 8 * k);
+        }
+        check.due("feed one too many", x.feed(32, 1), ThroughATrumpet.FULL);
+        check.due("BAD ahead of FULL", x.feed(32, 9), ThroughATrumpet.BAD);
+        check.due("160 stay", x.count(12), 160);
+        ThroughATrumpet y = new ThroughATrumpet();
+        for (int k = 1; k <= 19; k++) {
+            y.feed(32, 8);
+        }
+        y.feed(32, 7);
+        check.due("159 and two are too many", y.feed(32, 2), ThroughATrumpet.FULL);
+        check.due("159 and one", y.feed(32, 1), 160);
+    }
+
+    private static void text() {
+        ThroughATrumpet x = new ThroughATrumpet();
+        check.due("an empty tape", x.text(), -100);
+        check.due("text 1", Tapes.read(x, "had 95-far*4;chalk 90;takes 1;"), 1);
+        check.due("the tape is empty then", x.count(12), 0);
+        check.due("a fault", Tapes.read(x, "had ;"), -104);
+        check.due("the tape is empty by a fault, too", x.count(12), 0);
+        check.due("a fault is no TEXT", x.count(10), 2);
+        check.due("without blanks", Tapes.read(x, "had1;chalk1;takes1;"), 2);
+        check.due("with blanks of both sorts", Tapes.read(x, "\n had\n1 \n; chalk (1) ; takes\n1;\n "), 3);
+        check.due("text 4", Tapes.read(x, "had not 1 < 2 or 3 = 4 and 5;chalk - - 1;takes 1 - -1;"), 4);
+        check.due("text 5", Tapes.read(x, "had far+wind+noise+word+sail+minute;chalk 1;takes 1;"), 5);
+        check.due("THE LAW is as it was", x.count(11), 0);
+        Tapes.feed(x, "had ;");
+        check.due("FULL ahead of the FAULT", x.text(), ThroughATrumpet.FULL);
+        check.due("then the tape stays", x.count(12), 5);
+        check.due("TEXTS", x.count(10), 6);
+    }
+
+    private static void faults() {
+        fault("", 0);
+        fault("   ", 3);
+        fault("had", 3);
+        fault("had ", 4);
+        fault("chalk 1;had 1;takes 1;", 0);
+        fault("had 1;takes 1;chalk 1;", 6);
+        fault("had 1 chalk 1;takes 1;", 6);
+        fault("had 1;chalk 1;takes 1", 21);
+        fault("had 1;chalk 1;takes 1 \n ", 24);
+        fault("had 1;chalk 1;takes 1;;", 22);
+        fault("had 1;chalk 1;takes 1; far", 23);
+        fault("had 1;chalk 1;takes 1;  #", 24);
+        fault("had 1;chalk 1;takes 1;\t", 22);
+        fault("had 1;\u0000", 6);
+        fault("had \u00ff;", 4);
+        fault("Had 1;", 0);
+        fault("hads 1;", 0);
+        fault("ha d 1;", 0);
+        fault("had fa r;", 4);
+        fault("had fars;", 4);
+        fault("had farwind;", 4);
+        fault("had far wind;", 8);
+        fault("had 2far;", 5);
+        fault("had far2;", 7);
+        fault("had 1 2;", 6);
+        fault("had 12345;", 4);
+        fault("had 00001;", 4);
+        fault("had 1+12345;", 6);
+        fault("had chalk;", 4);
+        fault("had +1;", 4);
+        fault("had 1+;", 6);
+        fault("had 1+*2;", 6);
+        fault("had 1 * not 2;", 8);
+        fault("had 1 + not 2;", 8);
+        fault("had - not 2;", 6);
+        fault("had 1 < not 2;", 8);
+        fault("had 1 < 2 < 3;", 10);
+        fault("had 1 < 2 = 3;", 10);
+        fault("had 1 = = 3;", 8);
+        fault("had not;", 7);
+        fault("had 1 or;", 8);
+        fault("had or 1;", 4);
+        fault("had 1 and and 1;", 10);
+        fault("had 1 and or 1;", 10);
+        fault("had 1 not 1;", 6);
+        fault("had ();", 5);
+        fault("had (1;", 6);
+        fault("had (1));", 7);
+        fault("had (1", 6);
+        fault("had )#", 4);
+        fault("had 1 , 2", 6);
+        fault("had 1 > 2", 6);
+        fault("had (1 2 #", 7);
+        fault("had 1;chalk @", 12);
+        fault("had had 1;", 4);
+        ThroughATrumpet x = new ThroughATrumpet();
+        check.due("9999", Tapes.read(x, "had 9999;chalk 0000;takes 1;"), 1);
+        check.due("not not", Tapes.read(x, "had not not 1 < 2;chalk (1 < 2) < 3;takes (not 1) + 1;"), 2);
+    }
+
+    private static void fault(String text, int place) {
+        ThroughATrumpet x = new ThroughATrumpet();
+        check.due("FAULT of '" + text + "'", Tapes.read(x, text), -100 - place);
+        check.due("no TEXT came", x.count(10), 1);
+    }
+
+    private static void depth() {
+        good("had (((((1)))))" + REST);
+        fault("had ((((((1))))))" + REST, 9);
+        good("had -----1" + REST);
+        fault("had ------1" + REST, 9);
+        good("had not not not not not 1" + REST);
+        fault("had not not not not not not 1" + REST, 24);
+        good("had not -(not -1)" + REST);
+        good("had not -(not (1))" + REST);
+        fault("had not -(not (-1))" + REST, 15);
+        fault("had not -(not - -1)" + REST, 16);
+        fault("had not -(-(not 1))" + REST, 12);
+        fault("had (((((not 1)))))" + REST, 9);
+        // what is closed doesn't count any more, and a - between two TERMS never does
+        good("had ((((-1-2-3-4-5-6-7))))" + REST);
+        good("had (((((1)))))+(((((2)))))-(((((3)))))" + REST);
+        good("had ((((-1*-2*-3+-4))))" + REST);
+        good("had ((((not 1 and not 2 or not 3))))" + REST);
+        good("had not not not not not 1 and not not not not not 2" + REST);
+        good("had -----1*-----2" + REST);
+        fault("had ((((not -1))))" + REST, 12);
+        fault("had -----(1)" + REST, 9);
+        good("had 1;chalk (((((1)))));takes -----1;");
+        // a not is open up to where its NOT ends, so over both SUMS
+        fault("had not 1 < (((((1)))))" + REST, 16);
+        good("had not 1 < ((((1))))" + REST);
+        good("had not 1 and (((((1)))))" + REST);
+    }
+
+    private static void good(String text) {
+        check.due("a TEXT: '" + text + "'", Tapes.read(new ThroughATrumpet(), text), 1);
+    }
+
+    private static void force() {
+        ThroughATrumpet x = new ThroughATrumpet();
+        check.due("force(1)", x.force(1), ThroughATrumpet.BAD);
+        check.due("force(-1)", x.force(-1), ThroughATrumpet.BAD);
+        check.due("force(0)", x.force(0), 0);
+        Tapes.read(x, "had 11;chalk 12;takes 3;");
+        Tapes.read(x, "had 21;chalk 22;takes 4;");
+        check.due("force(2)", x.force(2), 0);
+        check.due("had of 2", x.asks(0, 3, 3), 21);
+        check.due("force(1)", x.force(1), 2);
+        check.due("chalk of 1", x.asks(1, 3, 3), 12);
+        check.due("force(3)", x.force(3), ThroughATrumpet.BAD);
+        check.due("still 1", x.count(11), 1);
+        check.due("force(0)", x.force(0), 1);
+    }
+
+    private static void asks() {
+        ThroughATrumpet x = new ThroughATrumpet();
+        check.due("asks(0, 0, 0)", x.asks(0, 0, 0), 30);
+        check.due("asks(0, 5, 0)", x.asks(0, 5, 0), 70);
+        check.due("asks(1, 0, 0)", x.asks(1, 0, 0), 20);
+        check.due("asks(1, 5, 5)", x.asks(1, 5, 5), 70);
+        check.due("asks(2, 10, 5)", x.asks(2, 10, 5), 1);
+        int[][] bad = {{-1, 0, 0}, {3, 0, 0}, {0, -1, 0}, {0, 11, 0}, {0, 0, -1}, {0, 0, 6}};
+        for (int[] b : bad) {
+            check.due("asks, a number that isn't as told", x.asks(b[0], b[1], b[2]), ThroughATrumpet.BAD);
+        }
+        x.set(4, 1 << 5);
+        check.due("a sail between", x.asks(0, 5, 0), 30);
+        check.due("none in the next", x.asks(0, 6, 0), 62);
+        x.set(2, -9);
+        check.due("wind", x.asks(0, 6, 0), 44);
+        x.set(0, 20);
+        x.set(1, 9);
+        check.due("had is 0 at least", x.asks(0, 0, 0), 0);
+        check.due("chalk is 0 at least", x.asks(1, 0, 0), 0);
+        x.set(0, 0);
+        x.set(1, 0);
+        x.set(2, 9);
+        x.set(3, 0);
+        check.due("had is 100 at most", x.asks(0, 0, 0), 100);
+        Tapes.read(x, "had 5; chalk 101; takes 0;");
+        Tapes.read(x, "had 5; chalk -1; takes 7;");
+        x.force(1);
+        check.due("chalk is 100 at most", x.asks(1, 0, 0), 100);
+        check.due("takes is 1 at least", x.asks(2, 0, 0), 1);
+        x.force(2);
+        check.due("chalk is 0 at least", x.asks(1, 0, 0), 0);
+        check.due("takes is 6 at most", x.asks(2, 0, 0), 6);
+        x.set(5, 12);
+        check.due("asks(0, 11, 0)", x.asks(0, 11, 0), 5);
+    }
+
+    private static void values() {
+        value("word*10", 30);
+        value("minute", 2);
+        value("far", 10);
+        value("noise", 3);
+        value("wind+50", 50);
+        value("sail", 0);
+        value("2+3*4", 14);
+        value("(2+3)*4", 20);
+        value("20-3-4", 13);
+        value("20-(3-4)", 21);
+        value("-3*-4", 12);
+        value("- 3 + 10", 7);
+        value("2*3*4-1", 23);
+        value("5 or 0", 1);
+        value("0 or 0", 0);
+        value("5 and 7", 1);
+        value("5 and 0", 0);
+        value("not 5", 0);
+        value("not 0", 1);
+        value("not not 5", 1);
+        value("7", 7);
+        value("(7)", 7);
+        value("3 < 4", 1);
+        value("4 < 4", 0);
+        value("4 = 4", 1);
+        value("4 = 5", 0);
+        value("not 3 < 4", 0);
+        value("not 1 + 1", 0);
+        value("not 1 = 0", 1);
+        value("(not 1) + 8", 8);
+        value("1 or 0 and 0", 1);
+        value("(1 or 0) and 0", 0);
+        value("not 1 or 1", 1);
+        value("not (1 or 1)", 0);
+        value("not 0 and 0", 0);
+        value("1 + 1 < 1 + 2", 1);
+        value("2 * 3 = 6", 1);
+        value("-1 < 0", 1);
+        value("(3 < 4) * 44", 44);
+        value("far < 11 and minute = 2", 1);
+        // 32 bits that wrap: 9999 ^ 3 is -1112159, modulo 2 ^ 32
+        int cube = 9999 * 9999 * 9999;
+        value("9999*9999*9999", Math.max(0, Math.min(100, cube)));
+        value("9999*9999*9999 < 0", cube < 0 ? 1 : 0);
+        // 65536 squared is 0
+        value("(4096*16)*(4096*16) = 0", 1);
+        value("4096*16*16*2048 < 0", 1);
+        value("4096*16*16*2048 - 1 < 0", 0);
+        value("-(4096*16*16*2048) < 0", 1);
+        value("4096*16*16*2048 + 4096*16*16*2048", 0);
+    }
+
+    /** In MINUTE 2 of THING 3. */
+    private static void value(String e, int due) {
+        ThroughATrumpet x = new ThroughATrumpet();
+        Tapes.read(x, "had " + e + ";chalk " + e + ";takes " + e + ";");
+        x.force(1);
+        check.due("had " + e, x.asks(0, 2, 3), due);
+        check.due("chalk " + e, x.asks(1, 2, 3), due);
+        check.due("takes " + e, x.asks(2, 2, 3), Math.max(1, Math.min(6, due)));
+    }
+
+    private static void theFirstLaw() {
+        String first = "had 95 - far * 4 + wind * 2 - noise * 3 - sail * 40 ; chalk 90 - far * 5 ; takes 1 ;";
+        for (int wind = -9; wind <= 9; wind += 3) {
+            ThroughATrumpet x = new ThroughATrumpet();
+            Tapes.read(x, first);
+            x.set(4, 0x555);
+            x.set(2, wind);
+            x.set(3, 9 + Math.min(0, wind));
+            for (int part = 0; part < 3; part++) {
+                for (int m = 0; m < 11; m++) {
+                    x.force(0);
+                    int of0 = x.asks(part, m, m % 6);
+                    x.force(1);
+                    check.due("TEXT 0 says as its text does", of0, x.asks(part, m, m % 6));
+                }
+            }
+        }
+    }
+}
