@@ -521,10 +521,10 @@ public final class ThroughATrumpet {
         return within(speed, 0, TOP_SPEED);
     }
 
-    /** Part 0 above, 1 below the line, in lowest terms; what is not there to be divided by makes it 0 by 1. */
+    /** Part 0 above, 1 below the line, in lowest terms; 0 by 0, when all is 0, becomes 0 by 1. */
     private static long lowest(long above, long below, int part) {
         long divisor = greatestDivisor(Math.abs(above), below);
-        if (above == 0 || below == 0 || divisor == 0) {
+        if (divisor == 0) {
             return part;
         }
         return (part == 0 ? above : below) / divisor;

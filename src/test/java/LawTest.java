@@ -7,6 +7,7 @@ public final class LawTest {
         feed();
         text();
         faults();
+        fullTapes();
         depth();
         force();
         asks();
@@ -122,10 +123,31 @@ public final class LawTest {
         check.due("not not", Tapes.read(x, "had not not 1 < 2;chalk (1 < 2) < 3;takes (not 1) + 1;"), 2);
     }
 
+    /** Place -101: there is none. */
     private static void fault(String text, int place) {
         ThroughATrumpet x = new ThroughATrumpet();
         check.due("FAULT of '" + text + "'", Tapes.read(x, text), -100 - place);
-        check.due("no TEXT came", x.count(10), 1);
+        check.due("how many TEXTS", x.count(10), place == -101 ? 2 : 1);
+    }
+
+    /** 160 bytes, of which each is a token or the last one is cut off by the end. */
+    private static void fullTapes() {
+        ThroughATrumpet x = new ThroughATrumpet();
+        check.due("70 ones", Tapes.read(x, "had 1" + "+1".repeat(69) + REST), 1);
+        x.force(1);
+        check.due("are 70", x.asks(0, 0, 0), 70);
+        check.due("one too many has no room", Tapes.feed(x, "had 11" + "+1".repeat(69) + REST), ThroughATrumpet.FULL);
+        ThroughATrumpet y = new ThroughATrumpet();
+        check.due("numbers that are as long as can be", Tapes.read(y, "had 9999" + "*0003".repeat(27) + REST), 1);
+        for (String token : new String[] {"(", "-", ")", ";", "1", "a", "=", " ", "\n", "#"}) {
+            fault(token.repeat(160), token.isBlank() ? 160 : 0);
+            fault("had 1;chalk 1;takes 1;" + " ".repeat(137) + token, token.isBlank() ? -101 : 159);
+        }
+        fault("had " + "1+".repeat(78), 160);
+        fault("had  " + "1+".repeat(77) + "1", 160);
+        fault("had " + "1+".repeat(76) + "far+", 160);
+        fault("had  " + "1+".repeat(76) + "far", 160);
+        fault("had  " + "1+".repeat(76) + "fa1", 157);
     }
 
     private static void depth() {
