@@ -65,6 +65,15 @@ public final class NewsTest {
         y.meet(5, 1, 2);
         check.due("not by the one ahead", y.news(1, 0, 3), -1);
         check.due("by the one behind", y.news(3, 0, 1), 5);
+        ThroughATrumpet full = new ThroughATrumpet();
+        for (int m = 0; m < 23; m++) {
+            full.meet(m, 0, 1);
+        }
+        full.meet(365, 1, 2);
+        check.due("by the last of 24", full.news(0, 0, 2), 365);
+        check.due("all but one", full.peace(0, 0, 365), 3);
+        check.due("the last is needed", full.key(0, 0, 2), 23);
+        check.due("never", full.news(0, 0, 3), -1);
     }
 
     private static void peace() {

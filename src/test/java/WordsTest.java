@@ -80,6 +80,14 @@ public final class WordsTest {
         y.mistake(1, 0, 20);
         odds(y, 0, 0, 0, 1);
         odds(y, 0, 1, 1, 1);
+        // all TAKEN of the first is 1: 3 times 1 by 1, 3 times 20 by 30
+        ThroughATrumpet z = new ThroughATrumpet();
+        z.word(1, 3);
+        z.word(1, 3);
+        z.mistake(0, 0, 1);
+        z.mistake(1, 0, 20);
+        odds(z, 0, 0, 3, 5);
+        odds(z, 0, 1, 2, 5);
     }
 
     private static void odds(ThroughATrumpet x, int heard, int said, long above, long below) {
@@ -212,6 +220,14 @@ public final class WordsTest {
         check.due("the last being heard", x.ask(3, 8, 0), 0);
         check.due("one at most", x.ask(3, 8, 1), 1);
         check.due("but one", x.ask(1120, 7, 0), 3);
+        ThroughATrumpet y = new ThroughATrumpet();
+        y.word(0, 1);
+        y.word(10, 1);
+        y.word(1110, 1);
+        check.due("0 is a figure as others are: all three have it last", y.ask(0, 0, 0), 0);
+        check.due("two at most", y.ask(0, 0, 1), 2);
+        check.due("of those with 0 0 ahead the third tells", y.ask(0, 1 + 2, 0), 2);
+        check.due("and leaves one", y.ask(0, 1 + 2, 1), 1);
         check.due("all heard", x.ask(1111, 15, 0), -1);
         check.due("all heard", x.ask(1111, 15, 1), -1);
         int[][] bad = {{-1, 0, 0}, {10000, 0, 0}, {0, -1, 0}, {0, 16, 0}, {0, 0, -1}, {0, 0, 2}, {10000, 15, 0}};
