@@ -1248,7 +1248,6 @@ public final class ThroughATrumpet {
     /** WORDS, and what they are taken for. */
     private static final class Words {
         static final int LIMIT = 6, FIGURES = 4;
-        private static final int[] UNITS = {1000, 100, 10, 1};
 
         final int[] figures = new int[LIMIT];
         final int[][] taken = new int[LIMIT][LIMIT];
@@ -1362,7 +1361,11 @@ public final class ThroughATrumpet {
         }
 
         private static int figure(int of, int place) {
-            return of / UNITS[place] % 10;
+            int ahead = of;
+            for (int k = place + 1; k < FIGURES; k++) {
+                ahead /= 10;
+            }
+            return ahead % 10;
         }
 
         /** How many WORDS of a list have the same figure at a place, at most. */
