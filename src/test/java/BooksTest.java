@@ -8,7 +8,9 @@ public final class BooksTest {
         print();
         printed();
         joinAndMet();
+        oneMeetingAtItsBounds();
         falseOnes();
+        speedAtItsBounds();
         there();
         last();
         cellOdds();
@@ -81,6 +83,62 @@ public final class BooksTest {
         check.due("is one", y.met(2), 1);
     }
 
+    /** DAYS 1 apart at most, CELLS 2 apart at most, on both sides; the SHIP's first and last REPORTS. */
+    private static void oneMeetingAtItsBounds() {
+        for (int days = -3; days <= 3; days++) {
+            for (int cells = -5; cells <= 5; cells++) {
+                boolean one = Math.abs(days) <= 1 && Math.abs(cells) <= 2;
+                ThroughATrumpet x = new ThroughATrumpet();
+                x.print(3, 100, 30, 0);
+                x.print(3, 100 + days, 30 + cells, 9);
+                check.due("join(0), apart " + days + " " + cells, x.join(0), one ? 3 : 1);
+                check.due("join(1), apart " + days + " " + cells, x.join(1), one ? 3 : 2);
+                check.due("met(3), apart " + days + " " + cells, x.met(3), one ? 1 : 2);
+                x.print(2, 100, 30, 0);
+                check.due("not with another SHIP's", x.join(2), 4);
+                check.due("another SHIP's is one", x.met(2), 1);
+            }
+        }
+        ThroughATrumpet y = new ThroughATrumpet();
+        for (int r = 0; r < 10; r++) {
+            y.print(1, 36 * r, 6 * r, r);
+        }
+        check.due("ten", y.met(1), 10);
+        check.due("the first alone", y.join(0), 1);
+        check.due("the last alone", y.join(9), 512);
+        check.due("none of SHIP 0", y.met(0), 0);
+        ThroughATrumpet z = new ThroughATrumpet();
+        z.print(0, 0, 0, 0);
+        check.due("one alone", z.met(0), 1);
+        z.print(0, 365, 60, 0);
+        check.due("two at both ends", z.met(0), 2);
+    }
+
+    /** No further apart than SPEED times their DAYS: just as far, and one further. */
+    private static void speedAtItsBounds() {
+        for (int speed = 0; speed <= 60; speed += 6) {
+            for (int days = -2; days <= 2; days++) {
+                int way = speed * Math.abs(days);
+                for (int cells = Math.max(0, way - 1); cells <= Math.min(60, way + 1); cells++) {
+                    ThroughATrumpet x = new ThroughATrumpet();
+                    x.print(1, 200, 0, 0);
+                    x.print(1, 200 + days, cells, 1);
+                    String apart = speed + ": " + days + " " + cells;
+                    check.due("falseOnes by " + apart, x.falseOnes(1, speed), cells > way ? 1 : 0);
+                    ThroughATrumpet y = new ThroughATrumpet();
+                    y.print(1, 200, 60, 0);
+                    check.due("there by " + apart, x.there(0, speed, 200 + days), ALL);
+                    check.due("there by " + apart, y.there(1, speed, 200 + days) >>> 60 - cells & 1, cells > way ? 0 : 1);
+                }
+            }
+        }
+        ThroughATrumpet z = new ThroughATrumpet();
+        z.print(0, 0, 0, 0);
+        z.print(0, 365, 60, 0);
+        check.due("standing still", z.falseOnes(0, 0), 1);
+        check.due("1 a day is enough", z.falseOnes(0, 1), 0);
+    }
+
     private static void falseOnes() {
         ThroughATrumpet x = new ThroughATrumpet();
         check.due("none", x.falseOnes(0, 0), 0);
@@ -113,6 +171,13 @@ public final class BooksTest {
             z.print(3, 7, 6 * r, 0);
         }
         check.due("but one of ten", z.falseOnes(3, 60), 511);
+        ThroughATrumpet w = new ThroughATrumpet();
+        for (int r = 0; r < 10; r++) {
+            w.print(3, r, 60 * (r % 2), r);
+        }
+        check.due("by 60 a day all are true", w.falseOnes(3, 60), 0);
+        check.due("by 59 every second one", w.falseOnes(3, 59), 1 + 4 + 16 + 64 + 256);
+        check.due("then the last is true", w.last(3, 59, 0), 9);
     }
 
     private static void there() {
@@ -154,6 +219,19 @@ public final class BooksTest {
         x.print(1, 40, 7, 0);
         x.print(1, 40, 7, 1);
         check.due("of like ones", x.last(1, 0, 1), 7);
+        ThroughATrumpet y = new ThroughATrumpet();
+        y.print(2, 365, 59, 0);
+        check.due("one alone", y.last(2, 0, 0), 365);
+        y.print(2, 0, 60, 0);
+        y.print(2, 300, 60, 0);
+        check.due("the first that was printed is the latest", y.last(2, 1, 0), 365);
+        check.due("its CELL", y.last(2, 1, 1), 59);
+        check.due("without any speed it is the false one", y.last(2, 0, 0), 300);
+        check.due("none of another SHIP", y.last(1, 1, 0), -1);
+        ThroughATrumpet z = new ThroughATrumpet();
+        z.print(2, 0, 0, 0);
+        check.due("DAY 0", z.last(2, 60, 0), 0);
+        check.due("CELL 0", z.last(2, 60, 1), 0);
         check.due("last(4, 0, 0)", x.last(4, 0, 0), -5);
         check.due("last(-1, 0, 0)", x.last(-1, 0, 0), -5);
         check.due("last(0, 61, 0)", x.last(0, 61, 0), -7);
@@ -177,6 +255,18 @@ public final class BooksTest {
         odds(x, 22, 1L << 50 | 1L << 20 | 1L << 63, 2011, 1, 4);
         odds(x, 20, 1L << 20, 10, 0, 1);
         odds(x, 60, 0, 60365, 1, 61);
+        odds(x, 20, 0, 3012, 1, 13);
+        odds(x, 26, 0, 3012, 1, 13);
+        odds(x, 27, 0, 3012, 0, 1);
+        odds(x, 20, 0, 1000, 1, 21);
+        odds(x, 20, 0, 365, 1, 1);
+        odds(x, 0, 0, 2000, 1, 41);
+        odds(x, 41, 0, 2000, 0, 1);
+        // the last CELL alone is left, and what lies behind it does not matter
+        odds(x, 60, (1L << 60) - 1, 60365, 1, 1);
+        odds(x, 60, Long.MIN_VALUE | 1L << 62 | 1L << 61, 60365, 1, 61);
+        odds(x, 60, 1L << 60, 60365, 0, 1);
+        odds(x, 0, 1, 60365, 0, 1);
         int[][] bad = {{-1, 0, 0, 0}, {4, 0, 0, 0}, {0, -1, 0, 0}, {0, 366, 0, 0}, {0, 999, 0, 0}, {0, 61000, 0, 0},
             {0, Integer.MAX_VALUE, 0, 0}, {0, Integer.MIN_VALUE, 0, 0}, {0, -1000, 0, 0}, {0, 0, -1, 0}, {0, 0, 61, 0},
             {0, 0, 0, -1}, {0, 0, 0, 2}};

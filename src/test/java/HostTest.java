@@ -7,7 +7,10 @@ public final class HostTest {
         sheet();
         cell();
         copy();
+        copyAtItsBounds();
+        bytesAndShorts();
         sayingsBy();
+        sayingsByAtItsBounds();
         taken();
         check.end();
     }
@@ -126,6 +129,122 @@ public final class HostTest {
         x.sheet(2, 0, 5);
         check.due("to another one", x.copy(0, 0, 2, 0, 5), 5);
         check.due("it is the same", x.judge(2), due[1]);
+    }
+
+    /** SAYINGS by which read() tells the numbers 0 to 5 from one another. */
+    private static ThroughATrumpet reading() {
+        ThroughATrumpet x = new ThroughATrumpet();
+        for (int t = 0; t < 6; t++) {
+            x.say(0, t, 0);
+        }
+        return x;
+    }
+
+    /** A number of a SHEET, by way of another SHEET of the same sort that has just one; -1: it is none of 0 to 5. */
+    private static int read(ThroughATrumpet x, int s, int sort, int i, int by) {
+        long[] worth = {9, 7, 5, 3, 2, 1};
+        x.sheet(by, sort, 1);
+        check.due("one number", x.copy(s, i, by, 0, 1), 1);
+        long got = x.judge(by);
+        for (int v = 0; v < 6; v++) {
+            if (got == worth[v] * 300000) {
+                return v;
+            }
+        }
+        return -1;
+    }
+
+    /** 40 numbers, of which some come to other places, of another SHEET or of its own: those, and no others. */
+    private static void copyAtItsBounds() {
+        int[][] all = {{0, 0, 40}, {0, 1, 39}, {1, 0, 39}, {39, 0, 1}, {0, 39, 1}, {40, 40, 0}, {0, 40, 0}, {40, 0, 0},
+            {0, 20, 20}, {20, 0, 20}, {5, 7, 9}, {7, 5, 9}, {3, 3, 30}};
+        for (int sort = 0; sort < 3; sort++) {
+            for (int[] one : all) {
+                for (int other = 0; other <= 3; other += 3) {
+                    copyOf40(sort, other, one);
+                }
+            }
+        }
+    }
+
+    private static void copyOf40(int sort, int other, int[] one) {
+        ThroughATrumpet x = reading();
+        int[][] due = new int[4][40];
+        for (int s = 0; s <= 3; s += 3) {
+            x.sheet(s, sort, 40);
+            for (int i = 0; i < 40; i++) {
+                due[s][i] = (i * 5 + i / 6 + s) % 6;
+                x.cell(s, i, due[s][i]);
+            }
+        }
+        System.arraycopy(due[0], one[0], due[other], one[1], one[2]);
+        check.due("copy of " + one[2], x.copy(0, one[0], other, one[1], one[2]), one[2]);
+        for (int i = 0; i < 40; i++) {
+            check.due("number " + i + " of the one", read(x, 0, sort, i, 1), due[0][i]);
+            check.due("number " + i + " of the other", read(x, 3, sort, i, 2), due[3][i]);
+        }
+    }
+
+    /** The lowest 8 and 16 bits: what is 0 to 5 by them, and what isn't. */
+    private static void bytesAndShorts() {
+        int[] high = {0, 0x80, 0x100, 0x7f00, 0x8000, 0x10000, 0x7fff0000, 0x80000000, 0xffffff00, 0xffff0000};
+        int[] bits = {8, 16, 32};
+        ThroughATrumpet x = reading();
+        for (int sort = 0; sort < 3; sort++) {
+            x.sheet(3, sort, 2);
+            for (int h : high) {
+                for (int v = 0; v < 6; v += 5) {
+                    x.cell(3, 1, h + v);
+                    boolean lost = bits[sort] == 32 ? h == 0 : (h & (1 << bits[sort]) - 1) == 0;
+                    check.due("sort " + sort + ", " + (h + v), read(x, 3, sort, 1, 0), lost ? v : -1);
+                }
+            }
+            check.due("the one ahead is 0 yet", read(x, 3, sort, 0, 0), 0);
+        }
+    }
+
+    /** 1 to 8 of them from the first and from the last place from which on they are there. */
+    private static void sayingsByAtItsBounds() {
+        for (int s = 0; s < 4; s++) {
+            for (int n = 0; n <= 8; n++) {
+                int sort = (s + n) % 3;
+                ThroughATrumpet x = new ThroughATrumpet();
+                x.sheet(s, sort, 40);
+                for (int i = 0; i < 40; i++) {
+                    x.cell(s, i, i % 6);
+                }
+                check.due("one place too far", x.sayingsBy(s, sort, 41 - 3 * n, n), n == 0 ? 0 : -12);
+                check.due("what stood ahead came", x.count(6), Math.max(0, n - 1));
+                ThroughATrumpet y = new ThroughATrumpet();
+                y.sheet(s, sort, 40);
+                for (int i = 0; i < 40; i++) {
+                    y.cell(s, i, i % 6);
+                }
+                int at = 40 - 3 * n;
+                check.due("to the last place", y.sayingsBy(s, sort, at, n), n);
+                check.due("all came", y.count(6), n);
+                for (int i = 0; i < n; i++) {
+                    check.due("KIND", y.told(i, 0, 0), (at + 3 * i) % 6);
+                    check.due("THING", y.told(i, 0, 1), (at + 3 * i + 1) % 6);
+                    check.due("MORE", y.told(i, 0, 2), (at + 3 * i + 2) % 6);
+                }
+                check.due("from the first place", y.sayingsBy(s, sort, 0, 8 - n), 8 - n);
+                check.due("eight", y.count(6), 8);
+                check.due("none has room", y.sayingsBy(s, sort, 0, 8), 0);
+            }
+        }
+        // each number just inside and just outside of what say() takes
+        int[][] all = {{0, 0, 0, 1}, {5, 5, 9, 1}, {-1, 0, 0, 0}, {6, 0, 0, 0}, {0, -1, 0, 0}, {0, 6, 0, 0}, {0, 0, -1, 0},
+            {0, 0, 10, 0}};
+        for (int[] one : all) {
+            ThroughATrumpet x = new ThroughATrumpet();
+            x.sheet(0, 2, 3);
+            for (int i = 0; i < 3; i++) {
+                x.cell(0, i, one[i]);
+            }
+            check.due("comes or is left out", x.sayingsBy(0, 2, 0, 1), one[3]);
+            check.due("how many there are", x.count(6), one[3]);
+        }
     }
 
     private static void sayingsBy() {

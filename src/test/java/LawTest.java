@@ -7,11 +7,15 @@ public final class LawTest {
         feed();
         text();
         faults();
+        bytes();
         fullTapes();
+        fullTexts();
         depth();
         force();
         asks();
         values();
+        bounds();
+        wraps();
         theFirstLaw();
         check.end();
     }
@@ -128,6 +132,37 @@ public final class LawTest {
         ThroughATrumpet x = new ThroughATrumpet();
         check.due("FAULT of '" + text + "'", Tapes.read(x, text), -100 - place);
         check.due("how many TEXTS", x.count(10), place == -101 ? 2 : 1);
+    }
+
+    /** Each byte where a SIGN or a blank may stand, and at the very end. */
+    private static void bytes() {
+        for (char b = 0; b < 256; b++) {
+            boolean blank = b == 32 || b == 10;
+            boolean joins = b == '+' || b == '-' || b == '*' || b == '<' || b == '=';
+            boolean digit = b >= '0' && b <= '9';
+            fault("had 1;chalk 1;takes 1;" + b, blank ? -101 : 22);
+            fault(b + "had 1;chalk 1;takes 1;", blank ? -101 : 0);
+            // a letter, a sign that joins nothing, or what begins no token can't stand behind a NUMBER
+            fault("had 1" + b + "1;chalk 1;takes 1;", joins || digit ? -101 : blank ? 6 : b == ';' ? 6 : 5);
+        }
+        for (char letter = 'a'; letter <= 'z'; letter++) {
+            fault("had far" + letter + ";", 4);
+            fault("had " + letter + ";", 4);
+        }
+    }
+
+    /** Five TEXTS as long as can be, each of which says what it says. */
+    private static void fullTexts() {
+        ThroughATrumpet x = new ThroughATrumpet();
+        for (int t = 1; t <= 5; t++) {
+            check.due("a long TEXT", Tapes.read(x, "had " + t + "+1".repeat(69) + ";chalk " + t + ";takes " + t + ";"), t);
+        }
+        for (int t = 1; t <= 5; t++) {
+            x.force(t);
+            check.due("had of TEXT " + t, x.asks(0, 0, 0), 69 + t);
+            check.due("chalk of TEXT " + t, x.asks(1, 0, 0), t);
+            check.due("takes of TEXT " + t, x.asks(2, 0, 0), t);
+        }
     }
 
     /** 160 bytes, of which each is a token or the last one is cut off by the end. */
@@ -286,17 +321,73 @@ public final class LawTest {
         value("4096*16*16*2048 < 0", 1);
         value("4096*16*16*2048 - 1 < 0", 0);
         value("-(4096*16*16*2048) < 0", 1);
+        // what is not true is 0, what is true is 1, whatever it was
+        value("(0 or 0) + 5", 5);
+        value("(0 or 7) + 5", 6);
+        value("(7 and 0) + 5", 5);
+        value("(7 and 7) + 5", 6);
+        value("(7 < 7) + 5", 5);
+        value("(7 < 8) + 5", 6);
+        value("(7 = 8) + 5", 5);
+        value("(7 = 7) + 5", 6);
+        value("(not 7) + 5", 5);
+        value("(not 0) + 5", 6);
+        value("-1 and 1", 1);
+        value("1 and -1", 1);
+        value("-1 or 0", 1);
+        value("0 or -1", 1);
+        value("not -1", 0);
+        value("- -1 < 2", 1);
         value("4096*16*16*2048 + 4096*16*16*2048", 0);
+    }
+
+    /** The last that is inside and the first that is outside of 0 .. 100, of 1 .. 6; in the document's order. */
+    private static void bounds() {
+        int[][] all = {{-9999, 0, 1}, {-1, 0, 1}, {0, 0, 1}, {1, 1, 1}, {2, 2, 2}, {5, 5, 5}, {6, 6, 6}, {7, 7, 6},
+            {99, 99, 6}, {100, 100, 6}, {101, 100, 6}, {9999, 100, 6}};
+        for (int[] one : all) {
+            ThroughATrumpet x = new ThroughATrumpet();
+            Tapes.read(x, "had " + one[0] + ";chalk " + one[0] + ";takes " + one[0] + ";");
+            x.force(1);
+            check.due("had " + one[0], x.asks(0, 10, 5), one[1]);
+            check.due("chalk " + one[0], x.asks(1, 10, 5), one[1]);
+            check.due("takes " + one[0], x.asks(2, 10, 5), one[2]);
+        }
+    }
+
+    /** 32 bits: T is 2 ^ 31, which is the least int; each of + - * and - alone goes over the edge. */
+    private static void wraps() {
+        String t = "4096*16*16*2048";
+        value(t, 0);
+        value(t + " - 1", 100);
+        value(t + " - 1 + 1", 0);
+        value(t + " - 1 + 1 < 0", 1);
+        value("-(" + t + ") = " + t, 1);
+        value("0 - " + t + " < 0", 1);
+        value("0 - 1 - (" + t + " - 1) = " + t, 1);
+        value("-2 - (" + t + " - 1) < 0", 0);
+        value("-2 - (" + t + " - 1) = " + t + " - 1", 1);
+        value("(" + t + " - 1) * 2", 0);
+        value("(" + t + " - 1) * 2 = -2", 1);
+        value("(" + t + ") * 2 = 0", 1);
+        value("(" + t + ") * -1 = " + t, 1);
+        value("not " + t, 0);
+        value("(" + t + ") * 2 or 0", 0);
+        value(t + " and 1", 1);
+        value(t + " < " + t + " - 1", 1);
+        value(t + " - 1 < " + t, 0);
     }
 
     /** In MINUTE 2 of THING 3. */
     private static void value(String e, int due) {
-        ThroughATrumpet x = new ThroughATrumpet();
-        Tapes.read(x, "had " + e + ";chalk " + e + ";takes " + e + ";");
-        x.force(1);
-        check.due("had " + e, x.asks(0, 2, 3), due);
-        check.due("chalk " + e, x.asks(1, 2, 3), due);
-        check.due("takes " + e, x.asks(2, 2, 3), Math.max(1, Math.min(6, due)));
+        String[] texts = {"had " + e + ";chalk 9;takes 9;", "had 9;chalk " + e + ";takes 9;", "had 9;chalk 9;takes " + e + ";"};
+        int[] bounded = {due, due, Math.max(1, Math.min(6, due))};
+        for (int part = 0; part < 3; part++) {
+            ThroughATrumpet x = new ThroughATrumpet();
+            check.due(texts[part], Tapes.read(x, texts[part]), 1);
+            x.force(1);
+            check.due(texts[part], x.asks(part, 2, 3), bounded[part]);
+        }
     }
 
     private static void theFirstLaw() {

@@ -8,7 +8,9 @@ public final class NewsTest {
         peace();
         key();
         drawn();
+        drawnAtItsBounds();
         imageAndBack();
+        imageAtItsBounds();
         check.end();
     }
 
@@ -82,6 +84,9 @@ public final class NewsTest {
         check.due("two", x.peace(0, 1, 1), 2);
         check.due("two yet", x.peace(0, 1, 4), 2);
         check.due("all", x.peace(0, 1, 5), 4);
+        check.due("on the DAY itself, the last one", x.peace(3, 365, 365), 1);
+        check.due("by the DAY ahead of the last one", x.peace(3, 365, 364), 0);
+        check.due("on DAY 0", x.peace(0, 0, 0), 1);
         check.due("one", x.peace(1, 6, 365), 1);
         check.due("peace(4, 0, 0)", x.peace(4, 0, 0), -5);
         check.due("peace(-1, 0, 0)", x.peace(-1, 0, 0), -5);
@@ -169,6 +174,103 @@ public final class NewsTest {
         check.due("71 is less than 72, and what doesn't end in time isn't had", z.drawn(0, 1), 1);
         check.due("its THING", z.drawn(0, 0), 8);
         check.due("its WORTH", z.drawn(0, 2), 3);
+    }
+
+    /** LIKELY 0 draws no LOT, 1 draws one, 100 is always had; the first and the last SEED. */
+    private static void drawnAtItsBounds() {
+        for (int seed : new int[] {0, 1, 28, 99, 2147, 54321, 99998, 99999}) {
+            for (int first : new int[] {0, 1, 2, 99, 100}) {
+                ThroughATrumpet x = new ThroughATrumpet();
+                Tapes.read(x, "had " + first + ";chalk 50;takes 1;");
+                x.force(1);
+                x.say(0, 0, 0);
+                x.say(4, 1, 0);
+                long lot = (seed + 1) * 48271L % 2147483647L;
+                int due = lot % 100 < first ? 1 : 0;
+                if (first > 0) {
+                    lot = lot * 48271L % 2147483647L;
+                }
+                due |= lot % 100 < 50 ? 2 : 0;
+                check.due("drawn by " + seed + ", had " + first, x.drawn(seed, 1), due);
+                check.due("its THINGS", x.drawn(seed, 0), due);
+                check.due("their WORTH", x.drawn(seed, 2), 9 * (due & 1) + 7 * (due >> 1));
+            }
+        }
+        // eight SAYINGS in 7 MINUTES: the last one doesn't begin, and isn't had; all of one THING count once
+        ThroughATrumpet y = new ThroughATrumpet();
+        Tapes.read(y, "had 100;chalk 50;takes 1;");
+        y.force(1);
+        y.set(5, 7);
+        for (int i = 0; i < 8; i++) {
+            y.say(0, 5, 0);
+        }
+        y.want(5, 99);
+        check.due("all but the last", y.drawn(99999, 1), 127);
+        check.due("one THING", y.drawn(99999, 0), 32);
+        check.due("once", y.drawn(99999, 2), 99);
+        y.set(5, 12);
+        check.due("all eight", y.drawn(99999, 1), 255);
+        for (int t = 0; t < 6; t++) {
+            y.want(t, 99);
+        }
+        ThroughATrumpet z = new ThroughATrumpet();
+        Tapes.read(z, "had 100;chalk 50;takes 1;");
+        z.force(1);
+        for (int t = 0; t < 6; t++) {
+            z.say(0, t, 0);
+            z.want(t, 99);
+        }
+        check.due("all THINGS", z.drawn(0, 0), 63);
+        check.due("all that they are WORTH", z.drawn(0, 2), 594);
+    }
+
+    /** An image with no WORDS, one with all six, one that is taken again. */
+    private static void imageAtItsBounds() {
+        ThroughATrumpet x = new ThroughATrumpet();
+        check.due("of a new object", x.image(), 0);
+        check.due("back at once", x.back(), 0);
+        for (int w = 0; w < 6; w++) {
+            x.word(w, 1);
+            x.mistake(w, w, 50 + w);
+            x.mistake(0, w, 60 + w);
+        }
+        check.due("back: all WORDS came since", x.back(), 0);
+        for (int w = 0; w < 6; w++) {
+            check.due("TAKEN of all as the first stays", x.mistake(0, w, 70 + w), 60 + w);
+            check.due("TAKEN of each as itself stays", x.mistake(w, w, 80 + w), w == 0 ? 70 : 50 + w);
+        }
+        for (int i = 0; i < 8; i++) {
+            x.say(0, 0, 0);
+        }
+        check.due("an image of the full one", x.image(), 8);
+        for (int said = 0; said < 6; said++) {
+            for (int heard = 0; heard < 6; heard++) {
+                x.mistake(said, heard, 99);
+            }
+        }
+        check.due("back of the full one", x.back(), 8);
+        for (int said = 0; said < 6; said++) {
+            for (int heard = 0; heard < 6; heard++) {
+                int due = said == heard ? 80 + said : said == 0 ? 70 + heard : 0;
+                check.due("TAKEN of six", x.mistake(said, heard, 98), due);
+            }
+        }
+        check.due("the bounds of THE PASS", x.set(0, 20), 4);
+        x.set(1, 9);
+        x.set(2, 9);
+        x.set(3, 9);
+        x.set(4, 4095);
+        x.set(5, 12);
+        x.image();
+        int[] most = {20, 9, 9, 9, 4095, 12};
+        int[] least = {0, 0, -9, 0, 0, 1};
+        for (int what = 0; what < 6; what++) {
+            x.set(what, least[what]);
+        }
+        x.back();
+        for (int what = 0; what < 6; what++) {
+            check.due("as in the last IMAGE", x.count(what), most[what]);
+        }
     }
 
     private static void imageAndBack() {

@@ -120,5 +120,22 @@ public final class PassTest {
         x.set(0, 20);
         check.due("of 1: pass(0)", x.pass(0), 20);
         check.due("of 1: pass(1)", x.pass(1), ThroughATrumpet.BAD);
+        x.set(1, 9);
+        check.due("of 1, however QUICK: pass(0)", x.pass(0), 20);
+        x.set(5, 12);
+        check.due("the furthest, 20 and half of 99, cut", x.pass(0), 69);
+        check.due("the furthest, on the other side", x.pass(11), 69);
+        check.due("the nearest, half of 9, cut", x.pass(5), 24);
+        x.set(1, 0);
+        for (int m = 0; m < 12; m++) {
+            check.due("not QUICK at all: pass(" + m + ")", x.pass(m), 20);
+        }
+        x.set(0, 0);
+        check.due("no way apart", x.pass(0), 0);
+        x.set(5, 2);
+        x.set(1, 9);
+        check.due("of 2: pass(0)", x.pass(0), 4);
+        check.due("of 2: pass(1)", x.pass(1), 4);
+        check.due("of 2: pass(2)", x.pass(2), ThroughATrumpet.BAD);
     }
 }

@@ -7,10 +7,15 @@ public final class SayingsTest {
         say();
         told();
         kinds();
+        kindsAtTheirBounds();
         run();
+        endsInTime();
         minute();
         judge();
+        judgeAtItsBounds();
         best();
+        bestOfFew();
+        bestOfFiveAndSix();
         side();
         leave();
         check.end();
@@ -111,6 +116,47 @@ public final class SayingsTest {
         }
     }
 
+    /** 100 at most, FAR no more than 2 times MORE, TAKES more: just below, just at, just above. */
+    private static void kindsAtTheirBounds() {
+        int[][] rowed = {{72, 99}, {73, 100}, {74, 100}, {100, 100}};
+        for (int[] one : rowed) {
+            ThroughATrumpet x = by("had " + one[0] + ";chalk 0;takes 1;");
+            x.say(1, 0, 9);
+            check.due("ROWED, 27 more than " + one[0], x.told(0, 0, 3), one[1]);
+        }
+        int[][] figured = {{0, 1}, {88, 96}, {89, 98}, {90, 100}, {91, 100}, {100, 100}};
+        for (int[] one : figured) {
+            ThroughATrumpet x = by("had " + one[0] + ";chalk 0;takes 1;");
+            x.say(2, 0, 1);
+            check.due("FIGURED, twice, 10 more than " + one[0], x.told(0, 0, 3), one[1]);
+        }
+        int[][] back = {{0, 0}, {1, 1}, {10, 19}, {50, 75}, {99, 99}, {100, 100}};
+        for (int[] one : back) {
+            ThroughATrumpet x = by("had " + one[0] + ";chalk 0;takes 6;");
+            x.say(3, 0, 0);
+            check.due("BACK of " + one[0], x.told(0, 0, 3), one[1]);
+            check.due("BACK takes twice 6", x.told(0, 0, 4), 12);
+        }
+        ThroughATrumpet f = by("had 100;chalk 33;takes 6;");
+        f.set(1, 0);
+        for (int far = 0; far <= 20; far++) {
+            f = by("had 100;chalk 33;takes 6;");
+            f.set(1, 0);
+            f.set(0, far);
+            for (int more = 0; more < 8; more++) {
+                f.say(5, 0, more + 2);
+                check.due("FLAGGED, FAR " + far + ", MORE " + (more + 2), f.told(more, 0, 3), far <= 2 * (more + 2) ? 100 : 16);
+            }
+            check.due("FLAGGED takes 1 more than 6", f.told(0, 0, 4), 7);
+        }
+        int[] longer = {6, 6, 6, 7, 7, 7, 8, 8, 8, 9};
+        for (int more = 0; more <= 9; more++) {
+            ThroughATrumpet x = by("had 100;chalk 33;takes 9;");
+            x.say(2, 0, more);
+            check.due("FIGURED takes MORE by 3 more than 6", x.told(0, 0, 4), longer[more]);
+        }
+    }
+
     private static void run() {
         ThroughATrumpet x = new ThroughATrumpet();
         check.due("run(-1)", x.run(-1), NO);
@@ -145,6 +191,53 @@ public final class SayingsTest {
         check.due("99 five times", z.run(7), 1000000);
     }
 
+    /** No later than all MINUTES end: in the last MINUTE, one too late, and not begun at all. */
+    private static void endsInTime() {
+        for (int minutes = 1; minutes <= 12; minutes++) {
+            ThroughATrumpet x = by("had 40;chalk 0;takes 6;");
+            x.set(5, minutes);
+            x.say(0, 0, 0);
+            x.say(0, 1, 0);
+            x.say(0, 2, 0);
+            check.due("ends in time of " + minutes, x.run(1), minutes / 6);
+            check.due("the first", x.run(2), minutes < 6 ? 0 : 400000);
+            check.due("the second", x.run(3), minutes < 12 ? 0 : 400000);
+            check.due("the third", x.run(4), 0);
+            check.due("the second begins, of " + minutes, x.minute(1, 0), minutes > 6 ? 6 : -1);
+            check.due("the third never does", x.minute(2, 0), -1);
+        }
+        ThroughATrumpet y = by("had 40;chalk 0;takes 6;");
+        y.set(5, 12);
+        y.say(3, 0, 0);
+        y.say(0, 1, 0);
+        check.due("one that takes all 12", y.minute(0, 1), 64);
+        check.due("none begins behind it", y.minute(1, 0), -1);
+        y.set(5, 11);
+        check.due("12 of 11 do not end in time", y.minute(0, 1), 0);
+        check.due("but it begins", y.minute(0, 0), 0);
+        check.due("none ends", y.run(1), 0);
+        // SAYINGS in a row of 12 MINUTES: 1 begins in 0, 2 in 6, 0 in the last one
+        ThroughATrumpet z = by("had minute*8+word;chalk 0;takes 1+5*(word=1)+4*(word=2);");
+        z.set(5, 12);
+        z.say(0, 0, 0);
+        z.say(0, 1, 0);
+        z.say(0, 2, 0);
+        z.sheet(0, 0, 3);
+        z.cell(0, 0, 1);
+        z.cell(0, 1, 2);
+        check.due("in the last MINUTE", z.judge(0), 9 * 880000L + 7 * 10000L + 5 * 500000L);
+        for (int t = 0; t < 8; t++) {
+            ThroughATrumpet w = by("had 100;chalk 0;takes 1;");
+            w.set(5, 7);
+            for (int i = 0; i < 8; i++) {
+                w.say(0, 5, 0);
+            }
+            check.due("eight in 7: " + t, w.minute(t, 0), t < 7 ? t : -1);
+            check.due("seven end", w.run(1), 7);
+            check.due("missed is 0 from the first on", w.run(7), 1000000);
+        }
+    }
+
     private static void minute() {
         ThroughATrumpet x = by("had 10 + minute;chalk 70;takes 4;");
         check.due("none yet", x.minute(0, 0), -5);
@@ -162,6 +255,12 @@ public final class SayingsTest {
         x.set(5, 12);
         check.due("in 12, the third is had", x.minute(2, 1), 18);
         check.due("in 12, the fourth would begin behind the last", x.minute(3, 0), -1);
+        x.set(5, 11);
+        check.due("in 11 again, the third isn't had", x.minute(2, 1), 0);
+        check.due("in 11 again, the third begins", x.minute(2, 0), 8);
+        x.set(5, 8);
+        check.due("in 8 again, it doesn't", x.minute(2, 0), -1);
+        x.set(5, 12);
         check.due("minute(0, 2)", x.minute(0, 2), -7);
         check.due("minute(0, -1)", x.minute(0, -1), -7);
         check.due("minute(5, 0)", x.minute(5, 0), -5);
@@ -201,6 +300,45 @@ public final class SayingsTest {
         check.due("three of two are too many", x.judge(3), NO);
     }
 
+    /** Rows of one to eight, on each SHEET; one of nine; each SAYING twice, each number just outside. */
+    private static void judgeAtItsBounds() {
+        for (int s = 0; s < 4; s++) {
+            ThroughATrumpet x = by("had 50;chalk 0;takes 1;");
+            for (int i = 0; i < 8; i++) {
+                x.say(0, i % 6, 0);
+            }
+            for (int n = 0; n <= 8; n++) {
+                x.sheet(s, s % 3, n);
+                for (int i = 0; i < n; i++) {
+                    x.cell(s, i, i);
+                }
+                long[] worth = {0, 9, 16, 21, 24, 26, 27, 31, 35};
+                // SAYINGS 6 and 7 are of THINGS 0 and 1 again: half of the half
+                long due = n <= 6 ? worth[n] * 500000 : 27 * 500000L + 9 * 250000L + (n == 8 ? 7 * 250000L : 0);
+                check.due("a row of " + n + " on SHEET " + s, x.judge(s), due);
+            }
+            for (int i = 0; i < 8; i++) {
+                x.cell(s, 7, i);
+                check.due("SAYING " + i + " at the last place", x.judge(s) == NO ? 1 : 0, i == 7 ? 0 : 1);
+            }
+            x.cell(s, 7, 8);
+            check.due("SAYING 8", x.judge(s), NO);
+            x.cell(s, 7, -1);
+            check.due("SAYING -1", x.judge(s), NO);
+            x.cell(s, 7, 7);
+            check.holds("a row of all again", x.judge(s) > 0);
+            x.sheet(s, s % 3, 9);
+            for (int i = 0; i < 9; i++) {
+                x.cell(s, i, i);
+            }
+            check.due("nine", x.judge(s), NO);
+            x.sheet(s, s % 3, 40);
+            check.due("forty", x.judge(s), NO);
+            x.sheet(s, -1, 3);
+            check.due("missing again", x.judge(s), NO);
+        }
+    }
+
     private static void best() {
         ThroughATrumpet x = new ThroughATrumpet();
         check.due("best(-1)", x.best(-1), NO);
@@ -225,6 +363,83 @@ public final class SayingsTest {
             check.due("nothing above", y.best(2), 0);
         }
         bestByExchanges();
+    }
+
+    /** All orders of 1 to 5 SAYINGS: each of them is the best one by a law of its own. */
+    private static void bestOfFew() {
+        for (int n = 1; n <= 5; n++) {
+            int orders = 1;
+            for (int k = 2; k <= n; k++) {
+                orders *= k;
+            }
+            for (int which = 0; which < orders; which++) {
+                int[] things = order(n, which);
+                ThroughATrumpet x = by("had 100 * (minute = word);chalk 0;takes 1;");
+                long[] digits = new long[n];
+                for (int i = 0; i < n; i++) {
+                    x.say(0, things[i], 0);
+                    digits[things[i]] = i + 1;
+                }
+                long due = 0;
+                for (long digit : digits) {
+                    due = 10 * due + digit;
+                }
+                check.due("the best of " + n, x.best(0), due);
+            }
+        }
+    }
+
+    /** Order number which of 0 .. n - 1, by numbers. */
+    private static int[] order(int n, int which) {
+        java.util.List<Integer> left = new java.util.ArrayList<>();
+        for (int k = 0; k < n; k++) {
+            left.add(k);
+        }
+        int[] order = new int[n];
+        int rest = which;
+        for (int k = 0; k < n; k++) {
+            int orders = 1;
+            for (int i = 2; i < n - k; i++) {
+                orders *= i;
+            }
+            order[k] = left.remove(rest / orders);
+            rest %= orders;
+        }
+        return order;
+    }
+
+    /** The best order can't be reached by exchanges that each are worth more: of 5 it is found, of 6 it isn't looked for. */
+    private static void bestOfFiveAndSix() {
+        ThroughATrumpet x = by("had 50*(minute=word)+60*(minute=word+1)+60*(word=2 and minute=0);chalk 0;takes 1;");
+        for (int t = 0; t < 6; t++) {
+            x.want(t, 1);
+        }
+        for (int t = 0; t < 5; t++) {
+            x.say(0, t, 0);
+        }
+        check.due("five: of all orders", x.best(0), 31245);
+        check.due("five: its WORTH", x.best(1), 2800000);
+        check.due("five: above THE ROW's", x.best(2), 300000);
+        x.say(0, 5, 0);
+        check.due("six: by exchanges", x.best(0), 123456);
+        check.due("six: its WORTH", x.best(1), 3000000);
+        check.due("six: not above THE ROW's", x.best(2), 0);
+        x.sheet(0, 0, 6);
+        int[] better = {2, 0, 1, 3, 4, 5};
+        for (int i = 0; i < 6; i++) {
+            x.cell(0, i, better[i]);
+        }
+        check.due("six: though another order is worth more", x.judge(0), 3300000);
+        ThroughATrumpet y = by("had 100*(minute=0);chalk 0;takes 1;");
+        ThroughATrumpet z = by("had 100*(minute=5);chalk 0;takes 1;");
+        for (int i = 0; i < 6; i++) {
+            y.want(i, i == 0 ? 0 : 4);
+            z.want(i, i == 5 ? 0 : 4);
+            y.say(0, i, 0);
+            z.say(0, i, 0);
+        }
+        check.due("of like exchanges the first by the other place", y.best(0), 213456);
+        check.due("of like exchanges the first by the lesser place", z.best(0), 623451);
     }
 
     /** Six, all of which can't be said: one exchange at a time, always the one that is worth most. */
@@ -292,5 +507,24 @@ public final class SayingsTest {
         z.say(0, 0, 0);
         z.say(0, 1, 0);
         check.due("one that keeps all others from being said", z.leave(), 0);
+        ThroughATrumpet w = by("had 50;chalk 0;takes 1;");
+        for (int i = 0; i < 8; i++) {
+            w.say(0, i % 6, 0);
+        }
+        check.due("of eight, each is worth something", w.leave(), -1);
+        w.want(1, 0);
+        check.due("SAYINGS 1 and 7 are worth nothing: the first", w.leave(), 1);
+        w.want(1, 7);
+        w.set(5, 7);
+        // without SAYING 5 the last one is had as well, and that is more than without any other
+        check.due("the one that makes room", w.leave(), 5);
+        ThroughATrumpet v = by("had 10 + 5 * minute;chalk 0;takes 1;");
+        v.set(5, 7);
+        for (int i = 0; i < 8; i++) {
+            v.say(0, i % 6, 0);
+        }
+        v.want(1, 0);
+        // without any other one those behind it come earlier, and are less likely had
+        check.due("the last, which doesn't begin: it is worth as much without it", v.leave(), 7);
     }
 }

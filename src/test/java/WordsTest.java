@@ -10,6 +10,7 @@ public final class WordsTest {
         oddsOfLargeNumbers();
         was();
         list();
+        listAtItsBounds();
         bits();
         ask();
         clocks();
@@ -80,6 +81,17 @@ public final class WordsTest {
         y.mistake(1, 0, 20);
         odds(y, 0, 0, 0, 1);
         odds(y, 0, 1, 1, 1);
+        // all TAKEN of the first is 0, which counts as 1: it changes nothing for the other one
+        ThroughATrumpet n = new ThroughATrumpet();
+        n.word(1, 3);
+        n.word(2, 5);
+        n.mistake(0, 0, 0);
+        odds(n, 1, 1, 1, 1);
+        odds(n, 1, 0, 0, 1);
+        odds(n, 0, 0, 0, 1);
+        odds(n, 0, 1, 0, 1);
+        check.due("the other one was said", n.was(1), 1);
+        check.due("all is 0", n.was(0), -1);
         // all TAKEN of the first is 1: 3 times 1 by 1, 3 times 20 by 30
         ThroughATrumpet z = new ThroughATrumpet();
         z.word(1, 3);
@@ -144,6 +156,26 @@ public final class WordsTest {
         check.due("what is taken for it", x.was(2), 1);
         check.due("was(3)", x.was(3), -5);
         check.due("was(-1)", x.was(-1), -5);
+        ThroughATrumpet y = new ThroughATrumpet();
+        y.word(1, 1);
+        y.mistake(0, 0, 1);
+        check.due("1 of 1 is enough", y.was(0), 0);
+        y.mistake(0, 0, 0);
+        check.due("0 of 0 isn't", y.was(0), -1);
+        // six WORDS, all alike: the first; then the last one is more
+        ThroughATrumpet z = new ThroughATrumpet();
+        for (int w = 0; w < 6; w++) {
+            z.word(w, 99);
+        }
+        for (int said = 0; said < 6; said++) {
+            for (int heard = 0; heard < 6; heard++) {
+                z.mistake(said, heard, 99);
+            }
+        }
+        check.due("of six like ones the first", z.was(5), 0);
+        z.mistake(5, 0, 98);
+        check.due("a little more", z.was(5), 5);
+        check.due("a little less", z.was(0), 0);
     }
 
     private static void list() {
@@ -172,10 +204,35 @@ public final class WordsTest {
         check.due("five by how much", x.list(5, 1), 4);
         check.due("all", x.list(6, 0), 63);
         check.due("all by how much", x.list(6, 1), 16);
+        check.due("none of six", x.list(0, 0), 0);
+        check.due("none of six by how much", x.list(0, 1), 0);
+        check.due("one alone, the least as bits", x.list(1, 0), 1);
+        check.due("one alone is never MUDDLED, not by itself either", x.list(1, 1), 0);
         check.due("list(7, 0)", x.list(7, 0), ThroughATrumpet.BAD);
         check.due("list(-1, 0)", x.list(-1, 0), ThroughATrumpet.BAD);
         check.due("list(0, 2)", x.list(0, 2), ThroughATrumpet.BAD);
         check.due("list(0, -1)", x.list(0, -1), ThroughATrumpet.BAD);
+    }
+
+    /** TAKEN as high as can be, and how many WORDS there may be. */
+    private static void listAtItsBounds() {
+        ThroughATrumpet x = new ThroughATrumpet();
+        for (int n = 0; n <= 6; n++) {
+            check.due("all of " + n, x.list(n, 0), (1 << n) - 1);
+            check.due("all of " + n + ", by how much", x.list(n, 1), 99 * n * (n - 1));
+            check.due("one more than " + n, x.list(n + 1, 0), ThroughATrumpet.BAD);
+            check.due("one more than " + n, x.list(n + 1, 1), ThroughATrumpet.BAD);
+            if (n < 6) {
+                x.word(0, 0);
+            }
+            for (int w = 0; w < n && n < 6; w++) {
+                x.mistake(n, w, 99);
+                x.mistake(w, n, 99);
+            }
+        }
+        x.mistake(4, 5, 98);
+        check.due("the two that are least so", x.list(2, 0), 16 + 32);
+        check.due("by how much", x.list(2, 1), 197);
     }
 
     private static void bits() {
@@ -228,6 +285,24 @@ public final class WordsTest {
         check.due("two at most", y.ask(0, 0, 1), 2);
         check.due("of those with 0 0 ahead the third tells", y.ask(0, 1 + 2, 0), 2);
         check.due("and leaves one", y.ask(0, 1 + 2, 1), 1);
+        ThroughATrumpet nines = new ThroughATrumpet();
+        for (int w = 0; w < 6; w++) {
+            nines.word(9999, 1);
+        }
+        for (int which = 0; which < 15; which++) {
+            int first = Integer.numberOfTrailingZeros(~which);
+            check.due("of like ones the first, " + which, nines.ask(9999, which, 0), first);
+            check.due("all six are left by a 9, " + which, nines.ask(9999, which, 1), 6);
+            check.due("none, where an 8 was heard, " + which, nines.ask(8888, which, 1), which == 0 ? 6 : 0);
+        }
+        for (int f = 0; f < 10; f++) {
+            ThroughATrumpet z = new ThroughATrumpet();
+            z.word(1111 * f, 1);
+            z.word(1111 * f, 1);
+            z.word(1111 * ((f + 1) % 10), 1);
+            check.due("two at most have a " + f, z.ask(0, 0, 1), 2);
+            check.due("those with a " + f, z.bits(1111 * f, 15), 3);
+        }
         check.due("all heard", x.ask(1111, 15, 0), -1);
         check.due("all heard", x.ask(1111, 15, 1), -1);
         int[][] bad = {{-1, 0, 0}, {10000, 0, 0}, {0, -1, 0}, {0, 16, 0}, {0, 0, -1}, {0, 0, 2}, {10000, 15, 0}};
@@ -244,6 +319,12 @@ public final class WordsTest {
         clocks(9999, -9999, 99, 1, new long[] {-489951, 50, 99, 100});
         clocks(0, 0, 5, 7, new long[] {0, 1, 35, 12});
         clocks(-6, 3, 1, 2, new long[] {-3, 1, 2, 3});
+        clocks(9999, 9999, 99, 99, new long[] {9999, 1, 99, 2});
+        clocks(9999, 9999, 1, 1, new long[] {9999, 1, 1, 2});
+        clocks(-9999, 9999, 1, 99, new long[] {-489951, 50, 99, 100});
+        clocks(-9999, 9999, 50, 50, new long[] {0, 1, 25, 1});
+        clocks(1, 0, 99, 98, new long[] {98, 197, 9702, 197});
+        clocks(0, 1, 99, 98, new long[] {99, 197, 9702, 197});
         ThroughATrumpet x = new ThroughATrumpet();
         int[][] bad = {{10000, 0, 101, 0}, {-10000, 0, 101, 0}, {0, 10000, 101, 0}, {0, -10000, 101, 0},
             {0, 0, 100, 0}, {0, 0, 1, 0}, {0, 0, 0, 0}, {0, 0, 10001, 0}, {0, 0, 9900, 0}, {0, 0, -101, 0},
