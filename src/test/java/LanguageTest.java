@@ -20,14 +20,14 @@ public final class LanguageTest {
             + "falseOnes(II)I there(III)J last(III)I cellOdds(IIIJI)J meet(III)I news(III)I peace(III)I key(III)I "
             + "drawn(II)I image()I back()I sheet(III)I cell(III)I copy(IIIII)I sayingsBy(IIII)I taken(II)I";
 
-    public static void main(String[] args) throws IOException {
+    public static void main(String[] args) throws IOException, ReflectiveOperationException {
         face();
         classesInside();
         words(Files.readString(Path.of("src/main/java/ThroughATrumpet.java")));
         check.end();
     }
 
-    private static void face() {
+    private static void face() throws ReflectiveOperationException {
         Class<?> c = ThroughATrumpet.class;
         check.due("public and final", c.getModifiers(), Modifier.PUBLIC | Modifier.FINAL);
         TreeSet<String> due = new TreeSet<>(Arrays.asList(FACE.split(" ")));
@@ -53,10 +53,24 @@ public final class LanguageTest {
             check.holds("field " + f.getName(), ofFace || Modifier.isPrivate(f.getModifiers()));
         }
         check.due("missing constants: " + constants, constants.size(), 0);
+        values(c);
         Constructor<?>[] all = c.getDeclaredConstructors();
         check.due("one constructor", all.length, 1);
         check.due("it is public", all[0].getModifiers(), Modifier.PUBLIC);
         check.due("without parameters", all[0].getParameterCount(), 0);
+    }
+
+    // asked for at run time: a constant that is named is put in when the test is compiled
+    private static void values(Class<?> c) throws ReflectiveOperationException {
+        String[] names = {"NONE", "BAD", "STATE", "FULL"};
+        for (int k = 0; k < names.length; k++) {
+            Field f = c.getField(names[k]);
+            check.holds(names[k] + " is an int", f.getType() == int.class && Modifier.isFinal(f.getModifiers()));
+            check.due(names[k], f.getInt(null), -1 - k);
+        }
+        Field no = c.getField("NO");
+        check.holds("NO is a long", no.getType() == long.class && Modifier.isFinal(no.getModifiers()));
+        check.due("NO", no.getLong(null), -4611686018427387904L);
     }
 
     private static String form(Method m) {

@@ -5,6 +5,7 @@ public final class LawTest {
 
     public static void main(String[] args) {
         feed();
+        feedOfEachSize();
         text();
         faults();
         bytes();
@@ -16,6 +17,8 @@ public final class LawTest {
         values();
         bounds();
         wraps();
+        names();
+        shorterBehindLonger();
         theFirstLaw();
         check.end();
     }
@@ -45,6 +48,42 @@ public final class LawTest {
         y.feed(32, 7);
         check.due("159 and two are too many", y.feed(32, 2), ThroughATrumpet.FULL);
         check.due("159 and one", y.feed(32, 1), 160);
+    }
+
+    /** The n lowest bytes, the highest first: what stands above them is fed by no n. */
+    private static void feedOfEachSize() {
+        String text = "had 1234;chalk 56;takes 2;";
+        for (int n = 1; n <= 8; n++) {
+            ThroughATrumpet x = new ThroughATrumpet();
+            for (int from = 0; from < text.length(); from += n) {
+                int size = Math.min(n, text.length() - from);
+                // above them stand bytes that begin no TOKEN
+                long w = -1L;
+                for (int k = 0; k < size; k++) {
+                    w = w << 8 | text.charAt(from + k);
+                }
+                check.due("feed " + size + " at " + from, x.feed(w, size), from + size);
+            }
+            check.due("fed by " + n, x.text(), 1);
+            x.force(1);
+            check.due("had, fed by " + n, x.asks(0, 0, 0), 100);
+            check.due("chalk, fed by " + n, x.asks(1, 0, 0), 56);
+            check.due("takes, fed by " + n, x.asks(2, 0, 0), 2);
+        }
+        // each size that fits up to 160, and the first that doesn't: that one leaves THE TAPE as it is
+        for (int n = 1; n <= 8; n++) {
+            ThroughATrumpet x = new ThroughATrumpet();
+            int fed = 0;
+            for (; fed + n <= 160; fed += n) {
+                check.due("feed by " + n, x.feed(0, n), fed + n);
+            }
+            check.due("no room for " + n, x.feed(0, n), ThroughATrumpet.FULL);
+            check.due("as many as there were", x.count(12), fed);
+            for (; fed < 160; fed++) {
+                check.due("one has room", x.feed(0, 1), fed + 1);
+            }
+            check.due("none has", x.feed(0, 1), ThroughATrumpet.FULL);
+        }
     }
 
     private static void text() {
@@ -387,6 +426,68 @@ public final class LawTest {
             check.due(texts[part], Tapes.read(x, texts[part]), 1);
             x.force(1);
             check.due(texts[part], x.asks(part, 2, 3), bounded[part]);
+        }
+    }
+
+    /** Each NAME from the least to the most that it can stand for. */
+    private static void names() {
+        ThroughATrumpet x = new ThroughATrumpet();
+        Tapes.read(x, "had far;chalk 50 + wind;takes noise;");
+        Tapes.read(x, "had 10 * word;chalk sail;takes 1 + sail;");
+        Tapes.read(x, "had minute;chalk far - 60;takes minute - 5;");
+        x.force(1);
+        for (int near = 0; near <= 20; near++) {
+            x.set(0, near);
+            check.due("far with NEAR " + near, x.asks(0, 0, 0), near + 10);
+        }
+        for (int wind = -9; wind <= 9; wind++) {
+            x.set(2, wind);
+            check.due("wind " + wind, x.asks(1, 0, 0), 50 + wind);
+        }
+        for (int noise = 0; noise <= 9; noise++) {
+            x.set(3, noise);
+            check.due("noise " + noise, x.asks(2, 0, 0), Math.max(1, Math.min(6, noise)));
+        }
+        x.force(2);
+        for (int thing = 0; thing < 6; thing++) {
+            check.due("word " + thing, x.asks(0, 0, thing), 10 * thing);
+        }
+        x.set(5, 12);
+        for (int sail = 0; sail < 12; sail++) {
+            x.set(4, 1 << sail);
+            for (int m = sail - 1; m <= sail + 1; m++) {
+                int due = m < 0 || m > 11 ? ThroughATrumpet.BAD : m == sail ? 1 : 0;
+                check.due("a sail in " + sail + ", MINUTE " + m, x.asks(1, m, 0), due);
+            }
+        }
+        x.force(3);
+        x.set(1, 9);
+        for (int m = 0; m < 12; m++) {
+            check.due("minute " + m, x.asks(0, m, 0), m);
+            check.due("minute " + m + " less 5", x.asks(2, m, 0), Math.max(1, m - 5));
+        }
+        check.due("FAR 69 less 60", x.asks(1, 0, 0), 9);
+        check.due("FAR 60 less 60", x.asks(1, 1, 0), 0);
+        check.due("FAR 69 less 60, on the other side", x.asks(1, 11, 0), 9);
+    }
+
+    /** What a longer TEXT, or one with a FAULT, left behind does not matter to a shorter one. */
+    private static void shorterBehindLonger() {
+        String[] longer = {"had 1;chalk 2;takes 3+1*2-4<5=", "had 1+1+1+1+1+1;chalk 2*2*2*2;takes 3-1-1-1-1;",
+            "had not 1;chalk not not 2;takes - - -3;", "had 1 or 2 and 3;chalk 1 < 2;takes 5*(4 = 4);"};
+        for (String one : longer) {
+            ThroughATrumpet x = new ThroughATrumpet();
+            Tapes.read(x, one);
+            for (String size : new String[] {"", "+0", "+0+0", "+0+0+0", "*1*1*1*1"}) {
+                int t = Tapes.read(x, "had 7;chalk 8;takes 2" + size + ";");
+                if (t > 0) {
+                    x.force(t);
+                    check.due("had behind " + one, x.asks(0, 0, 0), 7);
+                    check.due("chalk behind " + one, x.asks(1, 0, 0), 8);
+                    check.due("takes behind " + one, x.asks(2, 0, 0), 2);
+                }
+            }
+            check.due("TEXTS", x.count(10), 6);
         }
     }
 

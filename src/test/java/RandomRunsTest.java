@@ -67,8 +67,9 @@ public final class RandomRunsTest {
             all += often[k];
         }
         boolean close = random.nextBoolean();
-        while (calls < 480) {
-            if (random.nextInt(25) == 0) {
+        // an object is used for 512 calls; a text takes 22 at most
+        while (calls < 512) {
+            if (calls < 490 && random.nextInt(25) == 0) {
                 feedText(drawnText());
             }
             int lot = random.nextInt(all);
